@@ -1970,8 +1970,9 @@ public final class ProtoDesk {
             }
             Item old = fields[top];
             if (old == null) {
+                // The field that led here is looked at again, and its messages are met by then.
                 steps--;
-                return steps == 0 ? AGREE : moveOn(steps - 1);
+                return AGREE;
             }
             Item fresh = messages[top] == null ? null : messages[top].memberNumbered(old.number);
             if (fresh == null) {
@@ -1987,20 +1988,7 @@ public final class ProtoDesk {
             if (old.type == MESSAGE && enter(old.target, fresh.target)) {
                 return AGREE;
             }
-            return moveOn(top);
-        }
-
-        /** Ends the look at a field whose type agrees: its oneof is left, then the next field comes. */
-        private int moveOn(int top) {
-            if (top < 0 || top >= fields.length || top >= messages.length) {
-                return AGREE;
-            }
-            Item old = fields[top];
-            Item holder = messages[top];
-            if (old == null || holder == null) {
-                return AGREE;
-            }
-            if (isTornApart(old, holder)) {
+            if (isTornApart(old, fresh, messages[top])) {
                 return ONEOFS_DIFFER;
             }
             fields[top] = old.next;
@@ -2008,9 +1996,8 @@ public final class ProtoDesk {
         }
 
         /** Whether a new oneof has this field and one of a lower number that are not in one old oneof. */
-        private static boolean isTornApart(Item old, Item holder) {
-            Item fresh = holder.memberNumbered(old.number);
-            if (fresh == null || fresh.owner == null || old.scope == null) {
+        private static boolean isTornApart(Item old, Item fresh, Item holder) {
+            if (fresh.owner == null || old.scope == null || holder == null) {
                 return false;
             }
             for (Item lower = old.scope.first; lower != null && lower != old; lower = lower.next) {

@@ -135,6 +135,8 @@ public final class CheckTest {
                 .schema(1, "message C { bool x=1; } message B { C c=2048; } message A { B b=16; }");
         Expect.same("A and A", 2, d.desk.check(0, 2));
         Expect.same("the way", "10 80 10 01", d.outHex());
+        Expect.same("A and A again", 2, d.desk.check(0, 2));
+        Expect.same("the same way", "10 80 10 01", d.outHex());
         Expect.same("out", 0x1080100100000000L, d.desk.out(0));
         Expect.same("B and B", 2, d.desk.check(1, 1));
         Expect.same("the way from there", "80 10 01", d.outHex());
@@ -175,6 +177,8 @@ public final class CheckTest {
 
     private static void nothingElseChanges() {
         Desk d = new Desk().schema(0, "message A { int32 a=1; }").schema(1, "message A { bool a=1; }");
+        Expect.same("the first pair", 2, d.desk.check(0, 0));
+        Expect.same("the first pair again", 2, d.desk.check(0, 0));
         d.hex("08 05").decode(0, 1);
         d.text("A");
         Expect.same("check", 2, d.desk.check(0, 0));

@@ -15,6 +15,7 @@ public final class SchemaTest {
         tooMany();
         theFirstError();
         compileAndItsState();
+        compileAgain();
         place();
         many();
         field();
@@ -50,6 +51,9 @@ public final class SchemaTest {
         whole(0, "//c\nsyntax/**/=/***/\"proto3\"/*/*/;//c");
         whole(0, "/* \" // */syntax=\"proto3\";// /*");
         good("message A{}");
+        good("//\nmessage A{}//\n//");
+        bad(1, "//\n~x");
+        bad(1, "/**/~x");
         good("message A{;;;}enum B{C=0;}");
         good("message A { int32 a=1;int64 b=2;uint32 c=3;uint64 d=4;sint32 e=5;sint64 f=6;fixed32 g=7;fixed64 h=8;"
                 + "sfixed32 i=9;sfixed64 j=10;bool k=11;string l=12;bytes m=13;}");
@@ -81,6 +85,9 @@ public final class SchemaTest {
         whole(1, "syntax=~\"proto3 \";");
         whole(1, "syntax=~'proto3';");
         whole(1, "syntax=~proto3;");
+        whole(1, "syntax=~import;");
+        whole(1, "syntax ~option");
+        whole(1, "syntax=\"proto3\" ~map");
         whole(1, "syntax=~\"proto3;");
         whole(1, "syntax=~\"pro\nto3\";");
         whole(1, "syntax=~\"\\160roto3\";");
@@ -350,6 +357,33 @@ public final class SchemaTest {
         Expect.same("nothing at all", 0, d.desk.many(0, 0));
     }
 
+    /** Nothing of an earlier text is left, whatever it was. */
+    private static void compileAgain() {
+        String[] before = {"syntax=\"proto3\";/*", "syntax=\"proto3\";message A{message B{",
+            "syntax=\"proto3\";message A{oneof b{int32 c=1;", "syntax=\"proto3\";enum A{B=0;",
+            "syntax=\"proto3\";message A{A a=1;A b=2;repeated A c=3;oneof d{A e=4;}}",
+            "syntax=\"proto3\";message " + "a".repeat(590) + "{}",
+            "syntax=\"proto3\";message A{repeated int32 a=1[packed=false];repeated int32 b=2[packed=false];int32 c=3;}",
+            "syntax=\"proto3\";message A{int32 a=1[packed=true];int32 b=2[packed=true];}"};
+        for (String text : before) {
+            Desk d = new Desk().text(text);
+            d.desk.compile(0);
+            d.schema("message A { int32 a = 2; repeated int32 b = 1; enum E { F = 0; G = 1; H = 1; } E e = 3; }");
+            Expect.same("a row", "1 0 -1 2 -1 1", about(d, 0, 0));
+            Expect.same("a number", "2 0 -1 0 -1 1", about(d, 0, 1));
+            Expect.same("an enum", "3 14 0 0 -1 1", about(d, 0, 2));
+            Expect.same("fields", 3, d.desk.many(0, 2));
+            d.text("e: H").parse(0, 1);
+            Expect.same("the enum's values", "e: G\n", d.printed());
+            d.text(text);
+            d.desk.compile(0);
+            d.schema("enum E { F = 0; G = 1; H = 1; } message A { int32 x = 1; E e = 3; repeated E r = 4; }");
+            Expect.same("a number", "1 0 -1 0 -1 1", about(d, 0, 0));
+            d.text("e: G r: H r: 2").parse(0, 1);
+            Expect.same("the enum's values", "e: G\nr: G\nr: 2\n", d.printed());
+        }
+    }
+
     private static void place() {
         Desk d = new Desk();
         d.text(SYNTAX + " message");
@@ -394,6 +428,10 @@ public final class SchemaTest {
                 + "repeated string s = 5; oneof x { bool y = 4; B zz = 3; } oneof w { .A.C v = 2; } bytes b = 0x20; "
                 + "repeated C cc = 33 [packed=true]; repeated B bs = 34; message B { oneof q { C k = 1; } } "
                 + "enum C { D = 0; } } enum Z { Y = 0; }");
+        Desk hex = new Desk().schema("message A { int32 a = 0xaf; int32 b = 0xAF0; int32 c = 0x9; }");
+        Expect.same("0x9", 9, hex.desk.field(0, 0, 0, 0));
+        Expect.same("0xaf", 175, hex.desk.field(0, 0, 1, 0));
+        Expect.same("0xAF0", 2800, hex.desk.field(0, 0, 2, 0));
         Expect.same("an enum in a oneof", "2 14 0 0 1 1", about(d, 0, 0));
         Expect.same("a message in a oneof", "3 13 1 0 0 2", about(d, 0, 1));
         Expect.same("a bool in a oneof", "4 10 -1 0 0 1", about(d, 0, 2));

@@ -355,6 +355,12 @@ public final class TextTest {
 
     private static void wrongWords() {
         wrong("q: 1");
+        wrong("q");
+        wrong("a: 1 q");
+        wrong("l:");
+        wrong("a:");
+        wrong("o:");
+        wrong("a: 1 a");
         wrong("A: 1");
         wrong("x: 1");
         wrong("1: 1");
@@ -380,6 +386,8 @@ public final class TextTest {
         Expect.same("three deep, limit 2", "IllegalArgumentException", d.parse(0, 2));
         d.text("n{}");
         Expect.same("two deep, limit 1", "IllegalArgumentException", d.parse(0, 1));
+        d.text("n{");
+        Expect.same("two deep and not closed, limit 1", "IllegalArgumentException", d.parse(0, 1));
         d.text("a:1");
         Expect.same("one deep, limit 1", "1", d.parse(0, 1));
         d.text("n{".repeat(19) + "}".repeat(19));

@@ -133,6 +133,9 @@ public final class WireTest {
             wrong("message A { repeated string a=1; }", String.format("0a %02x ", size) + text);
         }
         wrong(ALL, "62 01 c3 62 01 a4");
+        // What follows would end the sequence, but is not of the text.
+        wrong(ALL, "62 01 c3 82 01 00");
+        wrong(ALL, "62 02 e2 82 82 01 00");
         wrong("message A { oneof x { string a=1; int32 b=2; } }", "0a 01 ff 10 01");
     }
 
@@ -306,6 +309,11 @@ public final class WireTest {
         both(schema, "08 05 20 07 28 01 1a 00", "3", "1a 00 20 07 28 01");
         both(schema, "1a 02 08 01 08 05 1a 02 20 01", "2", "1a 02 20 01");
         both(schema, "08 05 12 00 1a 00 30 07 3a 01 ff 40 01 08 06", "1", "08 06");
+        String behind = "message A { int32 z=1; oneof x { int32 a=2; int32 b=4; int32 c=6; } int32 y=3; int32 w=5; }";
+        both(behind, "08 05 10 01 20 02", "2", "08 05 20 02");
+        both(behind, "08 05 10 01 18 07 20 02 28 09 30 03", "4", "08 05 18 07 28 09 30 03");
+        both(behind, "08 05 18 07 28 09 30 03 98 06 01 10 01", "4", "08 05 10 01 18 07 28 09 98 06 01");
+        both(behind, "08 05 30 03 20 02 08 06 28 01", "3", "08 06 20 02 28 01");
         // What is of another kind is unknown, and takes nothing away.
         both(schema, "12 01 41 0a 01 07", "1", "12 01 41 0a 01 07");
     }
@@ -339,6 +347,14 @@ public final class WireTest {
         Expect.same("encoded", Desk.hexOf(nested), d.encoded());
         d.text(nested);
         Expect.same("twenty deep, limit 19", "IllegalArgumentException", d.decode(0, 19));
+        String filled = "\010\001";
+        for (int k = 0; k < 19; k++) {
+            filled = "\162" + (char) filled.length() + filled;
+        }
+        d.text(filled);
+        Expect.same("a value twenty deep", "20", d.decode(0, 20));
+        Expect.same("it is encoded", Desk.hexOf(filled), d.encoded());
+        Expect.yes("it is printed", d.printed().contains("\n" + "  ".repeat(19) + "a: 1\n"));
         d.text("\162" + (char) nested.length() + nested);
         Expect.same("21 deep", "IllegalArgumentException", d.decode(0, 20));
         Expect.same("there is no value then", "IllegalStateException", d.encoded());
