@@ -1235,6 +1235,7 @@ public final class ProtoDesk {
 
         private final Node[] nodes;
         private final Node root;
+        /** Texts and unknown bytes, those that a later value has replaced too: a tape's bytes never fill it. */
         private final Bytes texts;
         private int used;
         private Schema schema;
