@@ -1,7 +1,5 @@
 /** Promises 3 (compile), 4 (place), 5 (many), 6 (field) and 7 (find). */
 public final class SchemaTest {
-    private static final String SYNTAX = "syntax=\"proto3\";";
-
     public static void main(String[] args) {
         rightTexts();
         wrongWords();
@@ -25,24 +23,16 @@ public final class SchemaTest {
         Expect.end();
     }
 
-    /** Compiles a whole text; a ~ in it is left out and tells where the error is due. */
     private static void whole(int error, String marked) {
-        int place = marked.indexOf('~');
-        Desk d = new Desk().text(marked.replace("~", ""));
-        Expect.same("compile of " + marked, error, d.desk.compile(0));
-        Expect.same("place in " + marked, place, d.desk.place());
-        if (error != 0) {
-            Expect.same("messages after an error", 0, d.desk.many(0, 0));
-            Expect.same("fields after an error", 0, d.desk.many(0, 2));
-        }
+        Marked.whole(error, marked);
     }
 
     private static void bad(int error, String marked) {
-        whole(error, SYNTAX + marked);
+        Marked.bad(error, marked);
     }
 
     private static void good(String rest) {
-        whole(0, SYNTAX + rest);
+        Marked.good(rest);
     }
 
     private static void rightTexts() {
@@ -189,7 +179,8 @@ public final class SchemaTest {
             bad(2, "enum A { ~" + name + " = 0; }");
             bad(2, "enum A { B = 0; ~" + name + " 1; }");
             good("message " + name + " { ." + name + " " + name + " = 1; }");
-            good("message A { repeated " + name + " a = 1; oneof " + name + "2 { int32 b = 2; } } message " + name + "{}");
+            good("message A { repeated " + name + " a = 1; oneof " + name + "2 { int32 b = 2; } } message " + name
+                    + "{}");
             bad(5, "message A { ~" + name + "s a = 1; }");
             bad(1, "message A ~" + name + " {}");
         }
@@ -386,7 +377,7 @@ public final class SchemaTest {
 
     private static void place() {
         Desk d = new Desk();
-        d.text(SYNTAX + " message");
+        d.text(Marked.SYNTAX + " message");
         d.desk.compile(0);
         Expect.same("the text's length", 24, d.desk.place());
         Expect.argument("no such schema", () -> d.desk.compile(3));

@@ -12,7 +12,8 @@ public final class StormTest {
         "syntax=\"proto3\";message A{int32 a=1;repeated sint64 b=2;string c=3;A d=4;repeated A e=5;oneof x{bytes f=6;"
             + "uint64 g=7;E h=8;B i=9;}enum E{Z=0;Y=-1;X=0x10;}}message B{repeated fixed32 j=1[packed=false];A.E k=2;}",
         "syntax = \"proto3\"; // c\nmessage P { message Q { .P p = 536870911; Q q = 1; enum R { S = 0; } } Q a = 1; "
-            + "Q.R b = 2; repeated bool c = 3; sfixed64 d = 4; /* c */ repeated string e = 5; } enum T { U = 0; V = 1; }",
+            + "Q.R b = 2; repeated bool c = 3; sfixed64 d = 4; /* c */ repeated string e = 5; } "
+            + "enum T { U = 0; V = 1; }",
         "syntax=\"proto3\";message A{int64 a=1;repeated sint64 b=2;bytes c=3;A d=4;oneof y{int32 e=10;string f=6;}}"};
     private static final String[] BYTES = {
         "08 05 12 03 01 02 03 1a 01 41 22 02 08 01 2a 00 2a 02 08 07 32 01 ff", "38 05 40 ff ff ff ff 0f 4a 02 10 10",
@@ -27,7 +28,7 @@ public final class StormTest {
     private static long state = 20261115;
 
     public static void main(String[] args) {
-        for (int k = 0; k < 1500; k++) {
+        for (int k = 0; k < 3000; k++) {
             run(k);
         }
         Expect.end();
@@ -80,7 +81,7 @@ public final class StormTest {
             d.text(dice(3) == 0 ? broken(pick(SCHEMAS)) : pick(SCHEMAS));
             x.compile(schema);
         }
-        for (int k = 0; k < 12; k++) {
+        for (int k = 0; k < 6; k++) {
             int schema = dice(2);
             int message = odd(3);
             int depth = 1 + odd(20);

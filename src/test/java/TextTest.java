@@ -435,6 +435,11 @@ public final class TextTest {
         Expect.same("there is no value then", "IllegalStateException", d.encoded());
         d.text("a{}".repeat(201) + "a");
         Expect.same("beyond the limits and wrong", "IllegalArgumentException", d.parse(0, 2));
+        limitsAndZeros();
+    }
+
+    private static void limitsAndZeros() {
+        Desk d = new Desk().schema("message A { repeated A a=1; repeated int32 b=2; int32 c=3; }");
         d.text("a{}".repeat(200) + "c:0");
         Expect.same("a zero is no value", "200", d.parse(0, 2));
         d.text("a{}".repeat(200) + "c:1");
@@ -447,9 +452,9 @@ public final class TextTest {
 
     private static void thereAndBack() {
         Desk d = new Desk().schema(ALL);
-        String text = "a: -5\nb: 6\nc: 7\nd: 18446744073709551615\ne: -8\nf: -9\ng: 10\nh: 11\ni: -12\nj: -13\nk: true\n"
-                + "l: \"\\303\\244'\\\"\"\nm: \"\\000\\377\"\nn {\n  n {\n    a: 1\n  }\n}\no: X\nr: 0\nr: 1\ns {\n}\n"
-                + "s {\n  y: 0\n}\nz: \"\"\nv: Y\nv: 5\nu: \"\"\nu: \"x\"\nt: false\n";
+        String text = "a: -5\nb: 6\nc: 7\nd: 18446744073709551615\ne: -8\nf: -9\ng: 10\nh: 11\ni: -12\nj: -13\n"
+                + "k: true\nl: \"\\303\\244'\\\"\"\nm: \"\\000\\377\"\nn {\n  n {\n    a: 1\n  }\n}\no: X\nr: 0\nr: 1\n"
+                + "s {\n}\ns {\n  y: 0\n}\nz: \"\"\nv: Y\nv: 5\nu: \"\"\nu: \"x\"\nt: false\n";
         d.text(text);
         Expect.same("parse", "28", d.parse(0, 20));
         Expect.same("print", text, d.printed());

@@ -396,6 +396,12 @@ public final class WireTest {
         Expect.same("beyond the limits and wrong", "IllegalArgumentException", d.decode(0, 1));
         d.hex("0a b9 05" + " 07".repeat(697));
         Expect.same("697 values", "IllegalStateException", d.decode(0, 1));
+        limitsOfMessages();
+        whatDoesNotCount();
+    }
+
+    private static void limitsOfMessages() {
+        Desk d = new Desk().schema(ROWS);
         d.hex("42 00 ".repeat(200));
         Expect.same("200 messages", "200", d.decode(0, 2));
         d.hex("42 00 ".repeat(201));
@@ -404,6 +410,10 @@ public final class WireTest {
         Expect.same("200 messages and a value", "IllegalStateException", d.decode(0, 2));
         d.hex("42 00 ".repeat(198) + "42 03 0a 01 00");
         Expect.same("199 messages and a value", "200", d.decode(0, 2));
+    }
+
+    private static void whatDoesNotCount() {
+        Desk d = new Desk().schema(ROWS);
         d.hex("62 00 ".repeat(350));
         Expect.same("unknown bytes do not count", "0", d.decode(0, 1));
         Expect.same("all of them are there", 700, d.desk.encode());
