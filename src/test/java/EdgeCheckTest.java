@@ -9,6 +9,7 @@ public final class EdgeCheckTest {
         bothRepeatedOrNeither();
         typesThatAgree();
         anyEnumsAgree();
+        enumsAreNoMessages();
         packedIsNotLookedAt();
         namesAreNotLookedAt();
         messagesThatAgree();
@@ -75,6 +76,17 @@ public final class EdgeCheckTest {
     private static void anyEnumsAgree() {
         check("message A{E a=1;}enum E{Z=0;Y=1;}", "message A{F a=1;}enum F{X=0;W=7;}", 0, "");
         check("message A{E a=1;enum E{Z=0;}}", "message A{repeated E b=2;E a=1;}enum E{Z=0;Y=-1;}", 0, "");
+    }
+
+    /** Enums and messages have the same numbers, and enums' values numbers as fields have. */
+    private static void enumsAreNoMessages() {
+        String form = "message A{@ x=1;}message B{E e=1;A a=2;}enum E{Z=0;}";
+        Desk d = new Desk().schema(0, form.replace("@", "int32")).schema(1, form.replace("@", "string"));
+        Expect.same("A is looked at behind E", 2, d.desk.check(1, 1));
+        Expect.same("the way", "02 01", d.outHex());
+        String inside = "message M{}message A{E e=1;int32 a=2;enum E{Z=0;Y=1;X=2;}}";
+        Desk nested = new Desk().schema(0, inside).schema(1, inside);
+        Expect.same("enums in a message", 0, nested.desk.check(1, 1));
     }
 
     private static void packedIsNotLookedAt() {
@@ -155,7 +167,9 @@ public final class EdgeCheckTest {
                 check(oneofText(old), oneofText(fresh), due == 0 ? 0 : 3, due == 0 ? "" : "0" + due);
             }
         }
-        // A number that the old message has not does not matter.
+        // A number that one of them has not does not matter.
+        check("message A{int32 a=1;int32 b=2;}", "message A{oneof o{int32 b=2;}}", 0, "");
+        check("message A{int32 a=1;int32 b=2;int32 c=3;}", "message A{oneof o{int32 b=2;int32 c=3;}}", 3, "03");
         check("message A{int32 a=1;}", "message A{oneof o{int32 a=1;int32 b=2;}}", 0, "");
         check("message A{int32 a=1;int32 c=3;}", "message A{oneof o{int32 a=1;int32 b=2;}int32 c=3;}", 0, "");
     }

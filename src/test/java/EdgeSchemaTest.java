@@ -17,8 +17,10 @@ public final class EdgeSchemaTest {
         numbersHaveNoZeroInFront();
         numbersOfSixteen();
         numbersHaveNoLetterBehind();
+        numbersAreNoSigns();
         theSyntaxTextIsOne();
         aSchemaBeginsWithItsSyntax();
+        everyWordMustStandThere();
         messagesMayBeEmptyAndHaveSingleSigns();
         oneofsHaveAtLeastOneField();
         enumsHaveAtLeastOneValue();
@@ -190,6 +192,9 @@ public final class EdgeSchemaTest {
         Marked.bad(4, number("~0x20000000"));
         Marked.bad(4, number("~0x10000000000000001"));
         Marked.bad(1, number("~0X1"));
+        Marked.bad(1, number("~1x1"));
+        Marked.bad(1, number("~9xa"));
+        Marked.bad(1, number("~00x1"));
         Marked.bad(1, number("~0x"));
         Marked.bad(1, number("0~-1"));
     }
@@ -205,6 +210,22 @@ public final class EdgeSchemaTest {
             due = right || sixteen ? NONE : at(1, word ? 18 : b == '[' ? 22 : 21);
             outcome("behind a number of sixteen", b, due, number("0x1" + (char) b));
         }
+    }
+
+    /** A number is a word of its own, also where it is a sign's code. */
+    private static void numbersAreNoSigns() {
+        Marked.whole(1, "syntax ~61 \"proto3\";");
+        Marked.whole(1, "syntax=\"proto3\" ~59 ");
+        String[] members = {"int32 a ~61 1;", "int32 a=1 ~59 ", "~59 ", "repeated int32 a=1 ~91 packed=true];",
+            "repeated int32 a=1[packed ~61 true];", "repeated int32 a=1[packed=true ~93 ;", "oneof o ~123 int32 a=1;}",
+            "oneof o{int32 a=1; ~125 ", "A ~46 B a=1;message B{}", "~46 A a=1;"};
+        for (String member : members) {
+            Marked.bad(1, "message A{" + member + "}");
+        }
+        Marked.bad(1, "message A ~123 }");
+        Marked.bad(1, "message A{ ~125 ");
+        Marked.bad(1, "enum A{B=0;C=45 ~1;}");
+        Marked.bad(1, "enum A{B=0; ~125 ");
     }
 
     /** "A schema is: syntax = "proto3" ;" */
@@ -234,6 +255,30 @@ public final class EdgeSchemaTest {
         Marked.bad(1, "~;");
         Marked.bad(1, "~int32 a=1;");
         Marked.bad(1, "~oneof o{int32 a=1;}");
+    }
+
+    /** "1 a word that can't be, or can't stand there": a word is missing in front of the mark. */
+    private static void everyWordMustStandThere() {
+        String[] syntax = {"~=\"proto3\";", "syntax ~\"proto3\";", "syntax=~;", "syntax=\"proto3\"~message A{}",
+            "~\"proto3\";", "~;"};
+        for (String text : syntax) {
+            Marked.whole(1, text);
+        }
+        String[] declarations = {"~A{}", "message ~{}", "message A~}", "message A ~int32 a=1;}", "message A{}~}",
+            "enum ~{B=0;}", "enum A ~B=0;}", "enum A{~=0;}", "enum A{B ~0;}", "enum A{B=~;}", "enum A{B=0~}",
+            "enum A{B=0 ~C=1;}", "enum A{B=0;~"};
+        for (String text : declarations) {
+            Marked.bad(1, text);
+        }
+        String[] members = {"int32 ~=1;", "a ~=1;", "int32 a ~1;", "int32 a=~;", "int32 a=1~}", "int32 a=1 ~int32 b=2;",
+            "repeated ~=1;", "repeated a ~=1;", "A.~=1;", "A. a ~=1;", ".~=1;", "A .~=1;",
+            "repeated int32 a=1 ~packed=true];", "repeated int32 a=1[~=true];", "repeated int32 a=1[packed ~true];",
+            "repeated int32 a=1[~true];", "repeated int32 a=1[packed=~];", "repeated int32 a=1[packed=true~;",
+            "repeated int32 a=1[packed=true]~}", "oneof ~{int32 a=1;}", "oneof o ~int32 a=1;}", "oneof o{~=1;}",
+            "oneof o{int32 ~=1;}", "oneof o{int32 a ~1;}", "oneof o{int32 a=1~}", "~{int32 a=1;}"};
+        for (String text : members) {
+            Marked.bad(1, "message A{" + text + "}");
+        }
     }
 
     /** "message NAME { .. } has fields, oneofs, messages, enums, single ; ." */
@@ -662,6 +707,12 @@ public final class EdgeSchemaTest {
         Marked.bad(5, "message A{~A.B.A a=1;message B{}}");
         Marked.good("message A{A.B.C a=1;message B{enum C{Z=0;}}}");
         Marked.bad(5, "message A{~A.C a=1;message B{message C{}}}");
+        // What follows a part that is not there is not looked up elsewhere.
+        Marked.bad(5, "message A{~X.A a=1;}");
+        Marked.bad(5, "message A{~.X.A a=1;}");
+        Marked.bad(5, "message A{~A.X.A a=1;}");
+        Marked.bad(5, "message A{~A.X.B a=1;message B{}}");
+        Marked.bad(5, "message A{~B.X.B a=1;message B{}}message B{}");
     }
 
     /** "A schema with an error is empty then." */

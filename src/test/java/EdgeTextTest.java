@@ -467,7 +467,8 @@ public final class EdgeTextTest {
         for (int b = 0; b < 256; b++) {
             boolean digit = b >= '0' && b <= '7';
             char other = (char) b;
-            for (String text : new String[] {"\\" + other + "01", "\\0" + other + "1", "\\00" + other}) {
+            for (String text : new String[] {"\\" + other + "01", "\\0" + other + "1", "\\00" + other,
+                "\\1" + other + "1", "\\11" + other}) {
                 String answer = new Desk().schema("message A{bytes a=1;}").text("a:'" + text + "'").parse(0, 1);
                 boolean right = digit && !text.matches("(?s)\\\\[4-7].*") || "nrt\"\\'".indexOf(b) >= 0
                         && text.charAt(1) == other;
