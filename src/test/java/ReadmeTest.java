@@ -77,7 +77,6 @@ public final class ReadmeTest {
             }
         }
         Expect.same("files in commands", 3, many);
-        Expect.yes(".ci/run can be run", Files.isExecutable(Path.of(".ci/run")));
     }
 
     /** The names that stand in the first column of a section's tables, up to an opening bracket. */
